@@ -408,7 +408,7 @@ public final class HopeBank {
         if (lacksGame(pig, other) || x < 0 || x > 1 || y < 0 || y > 1) {
             return NO_GAME;
         }
-        trials.playGame();
+        trials.playWith(ALL_COME, false);
         return trials.payOff(pig, other, x, y);
     }
 
@@ -595,7 +595,8 @@ public final class HopeBank {
     /** What is derived from the town is made anew here, behind every change of it. */
     private void renew() {
         current.plan();
-        play.playAsTold();
+        play.choose(ALL_COME, true);
+        play.playTo(MOST_NIGHTS, BREAK);
         packing.forget();
     }
 
@@ -749,10 +750,10 @@ public final class HopeBank {
             told.copy(other.told);
             thieves.copy(other.thieves);
             acts.copy(other.acts);
-            events.copy(other.events);
             lines = other.lines;
         }
 
+        /** Puts the events in order; behind a copy or an act it has to be done anew. */
         void plan() {
             events.clear();
             int nights = headNumber(NIGHTS);
@@ -917,14 +918,14 @@ public final class HopeBank {
         /** Goes on to the next token, the longest that begins there. */
         private void advance() {
             int i = next;
-            while (i < length && isBlank(i)) {
+            while (i < length && isBlank(byteAt(i))) {
                 i++;
             }
             start = i;
-            kind = kindAt(i);
+            kind = kindOf(byteAt(i));
             i++;
             if (kind == WORD || kind == NUMBER) {
-                while (i < length && kindAt(i) == kind) {
+                while (i < length && kindOf(byteAt(i)) == kind) {
                     i++;
                 }
             }
@@ -932,19 +933,17 @@ public final class HopeBank {
         }
 
         private int byteAt(int i) {
-            return i >= 0 && i < length && i < tape.length ? tape[i] & 255 : 0;
+            return i >= 0 && i < length && i < tape.length ? tape[i] & 255 : NONE;
         }
 
-        private boolean isBlank(int i) {
-            int c = byteAt(i);
+        private static boolean isBlank(int c) {
             return c == 32 || c == 10;
         }
 
-        private int kindAt(int i) {
-            if (i >= length) {
+        private static int kindOf(int c) {
+            if (c == NONE) {
                 return END;
             }
-            int c = byteAt(i);
             if (c >= 'a' && c <= 'z') {
                 return WORD;
             }
@@ -989,7 +988,7 @@ public final class HopeBank {
         /* Of each act what it answers: whether the hope goes in, which hopes are got. */
         final int[] results = new int[MOST_ACTS];
         int wentIn;
-        private final int[] loads = new int[MOST_PIGS];
+        private final int[] spares = new int[MOST_PIGS];
         private final int[] inside = new int[MOST_PIGS];
         private int broken;
         private int coming;
@@ -1015,11 +1014,6 @@ public final class HopeBank {
             widenedRoom = room;
         }
 
-        void playAsTold() {
-            choose(ALL_COME, true);
-            playTo(MOST_NIGHTS, BREAK);
-        }
-
         /** Plays all events to those of a kind in a night, these with it. */
         void playTo(int night, int kind) {
             begin();
@@ -1041,8 +1035,10 @@ public final class HopeBank {
             Arrays.fill(how, NONE);
             Arrays.fill(took, NONE);
             Arrays.fill(results, 0);
-            Arrays.fill(loads, 0);
             Arrays.fill(inside, 0);
+            for (int p = 0; p < spares.length; p++) {
+                spares[p] = p == widened ? widenedRoom : town.pigs.get(p, ROOM);
+            }
             wentIn = 0;
             broken = 0;
         }
@@ -1074,10 +1070,11 @@ public final class HopeBank {
             }
             int size = town.hopes.get(hope, SIZE);
             int among = Integer.bitCount(at(inside, pig));
-            set(volume, hope, loudness(town.headNumber(LAW), town.hopes.get(hope, LOUD), among, spareRoom(pig) - size));
+            int roomBehind = at(spares, pig) - size;
+            set(volume, hope, loudness(town.headNumber(LAW), town.hopes.get(hope, LOUD), among, roomBehind));
             set(fell, hope, night);
             set(into, hope, pig);
-            set(loads, pig, at(loads, pig) + size);
+            set(spares, pig, roomBehind);
             set(inside, pig, at(inside, pig) | 1 << hope);
             return true;
         }
@@ -1088,11 +1085,7 @@ public final class HopeBank {
                 return false;
             }
             int size = town.hopes.get(hope, SIZE);
-            return size <= town.pigs.get(pig, SLOT) && size <= spareRoom(pig);
-        }
-
-        private int spareRoom(int pig) {
-            return (pig == widened ? widenedRoom : town.pigs.get(pig, ROOM)) - at(loads, pig);
+            return size <= town.pigs.get(pig, SLOT) && size <= at(spares, pig);
         }
 
         private void steal(int thief, int night) {
@@ -1107,7 +1100,7 @@ public final class HopeBank {
             set(took, thief, hope);
             set(gone, hope, night);
             set(how, hope, STOLEN);
-            set(loads, pig, at(loads, pig) - town.hopes.get(hope, SIZE));
+            set(spares, pig, at(spares, pig) + town.hopes.get(hope, SIZE));
             set(inside, pig, at(inside, pig) & ~(1 << hope));
         }
 
@@ -1139,7 +1132,6 @@ public final class HopeBank {
             }
             set(results, act, held);
             set(inside, pig, 0);
-            set(loads, pig, 0);
             broken = broken | 1 << pig;
         }
     }
@@ -1219,7 +1211,7 @@ public final class HopeBank {
             int sum = 0;
             for (int h = 0; h < town.hopes.size; h++) {
                 if (placeOf(h, night) == pig) {
-                    sum += hopeValue(h, night);
+                    sum += town.hopes.get(h, WORTH) + night - at(play.fell, h);
                 }
             }
             return sum;
@@ -1376,7 +1368,7 @@ public final class HopeBank {
             below = 1;
         }
 
-        private void playWith(int coming, boolean breaking) {
+        void playWith(int coming, boolean breaking) {
             play.choose(coming, breaking);
             play.playTo(MOST_NIGHTS, BREAK);
         }
@@ -1431,10 +1423,6 @@ public final class HopeBank {
             return thief;
         }
 
-        void playGame() {
-            playWith(ALL_COME, false);
-        }
-
         private int nightChosen(int pig, int choice) {
             return choice == 1 ? look.bestNight(pig) : town.lastNight();
         }
@@ -1446,7 +1434,7 @@ public final class HopeBank {
         }
 
         int pairsAtRest(int pig, int other) {
-            playGame();
+            playWith(ALL_COME, false);
             int bits = 0;
             for (int x = 0; x <= 1; x++) {
                 for (int y = 0; y <= 1; y++) {
@@ -1674,7 +1662,10 @@ public final class HopeBank {
             }
         }
 
-        /** From the greatest set down, so that what this pig adds is not taken for what was reached ahead of it. */
+        /**
+         * From the greatest set down, so that what this pig adds is not taken for what was reached ahead of it; and from
+         * the greatest part of the rest down to none, each less than the one ahead of it.
+         */
         private void spread(int pig, int free) {
             int room = town.pigs.get(pig, ROOM) - sets.weightOf(at(fixed, pig));
             for (int s = sets.whole; s >= 0; s--) {

@@ -332,6 +332,11 @@ public final class PromiseTest {
         Check.due("41: needs", other.needs(0), 9);
         Check.due("41: no drops into it", other.needs(1), 1);
         Check.due("42: none of them takes", other.ward(), -1);
+        HopeBank wide = Check.bankOf("town nights 1 law 0 quiet 0 odds 0;pig room 1 slot 9;"
+            + "hope size 9 loud 1 worth 7;".repeat(6) + "hope size 6 loud 1 worth 7;hope size 1 loud 1 worth 1;"
+            + "drop 0 in 0 at 0;drop 1 in 0 at 0;drop 2 in 0 at 0;drop 3 in 0 at 0;drop 4 in 0 at 0;drop 5 in 0 at 0;"
+            + "drop 6 in 0 at 0;");
+        Check.due("41: the greatest room", wide.needs(0), 60);
         // The first thief takes hope 1, the second hope 0: without either one hope stays.
         HopeBank ward = Check.bankOf("town nights 3 law 0 quiet 0 odds 0;pig room 9 slot 9;"
             + "hope size 5 loud 1 worth 7;hope size 4 loud 1 worth 7;drop 0 in 0 at 0;drop 1 in 0 at 0;"
@@ -447,6 +452,10 @@ public final class PromiseTest {
         tilt(bank, new int[] {1, 0, 1, 0}, new int[] {8, 0, 4, 4, 3});
         tilt(bank, new int[] {1, 1}, new int[] {0, -1, -1, -1, 0});
         tilt(bank, new int[] {9, 8}, new int[] {0, -1, -1, -1, 0});
+        HopeBank eight = Check.bankOf(HEAD + "pig room 60 slot 9;" + "hope size 1 loud 0 worth 0;".repeat(8));
+        tilt(eight, new int[] {9, 8}, new int[] {1, 255, 0, -1, 1});
+        tilt(eight, new int[] {9, 0}, new int[] {1, 0, 255, -1, 1});
+        tilt(eight, new int[] {9, 7}, new int[] {8, 0, 0, -1, 8});
         int[] wrong = {-2, -2, -2, -2, -2};
         tilt(bank, new int[] {0, 1}, wrong);
         tilt(bank, new int[] {10, 1}, wrong);
