@@ -1773,7 +1773,7 @@ public final class HopeBank {
             for (int k = 0; k < MOST_HOPES; k++) {
                 int hope = nextBehind(among);
                 if (k == i || hope == NONE) {
-                    return i < 0 || k < i ? NONE : hope;
+                    return hope;
                 }
                 among = among | 1 << hope;
             }

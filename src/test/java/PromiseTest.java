@@ -522,6 +522,8 @@ public final class PromiseTest {
             Check.due("57: wrong", bank.gets(w[0], w[1], 0, 0), -1000);
         }
         Check.due("57: no choice", bank.gets(0, 1, 2, 0), -1000);
+        Check.due("57: no choice", bank.gets(0, 1, -1, 0), -1000);
+        Check.due("57: no choice", bank.gets(0, 1, 0, 2), -1000);
         Check.due("57: no choice", bank.gets(0, 1, 0, -1), -1000);
         HopeBank empty = Check.bankOf(HEAD + "pig room 3 slot 3;pig room 3 slot 3;");
         // Both are worth 0 ever: the greatest is at night 0.
@@ -591,6 +593,23 @@ public final class PromiseTest {
         Check.due("61: -2 ahead of -5", bank.breaks(2, 0), -2);
         Check.due("63: anew", bank.anew(), 30);
         Check.due("67: none", bank.count(8), 0);
+        fullTown();
+    }
+
+    /** As many drops, thieves and acts as there may be, all in nights that there are. */
+    private static void fullTown() {
+        HopeBank bank = Check.bankOf("town nights 20 law 0 quiet 0 odds 5;pig room 60 slot 9;hope size 9 loud 9 worth 80;"
+            + "drop 0 in 0 at 19;".repeat(10) + "thief at 19 from 0 fingers 8;".repeat(6));
+        for (int i = 0; i < 29; i++) {
+            Check.due("60: in it already", bank.drops(0, 0, 19), 0);
+        }
+        Check.due("61: the last of all", bank.breaks(0, 19), 1);
+        Check.due("10: all but the first", bank.misses(), 1022);
+        Check.due("35: got", bank.got(19), 80);
+        Check.due("58: gone", bank.chance(0, 19, 0), 0);
+        Check.due("62: undo", bank.undo(), 29);
+        Check.due("58: in it", bank.chance(0, 19, 0), 1);
+        Check.due("59: worth", bank.mean(0, 19, 0), 80);
     }
 
     private static void breaking() {
@@ -638,6 +657,9 @@ public final class PromiseTest {
         Check.due("65: luck", bank.luck(7, 20, 1), stolen);
         Check.due("65: never", bank.luck(7, 20, 0), 0);
         Check.due("65: one year", bank.luck(7, 1, 1), 1);
+        // Seed 0: x is 12345, the draw 0.
+        Check.due("64: the least seed", bank.drawn(0, 0) & 1, 1);
+        Check.due("65: the least seed", bank.luck(0, 1, 1), 1);
         Check.due("64: the greatest seed", Math.min(0, bank.drawn(2000000000, 0)), 0);
         Check.due("64: beyond", bank.drawn(2000000001, 0), -2);
         Check.due("64: below 0", bank.drawn(-1, 0), -2);
