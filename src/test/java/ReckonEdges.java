@@ -1,4 +1,4 @@
-/** Edges of what is reckoned: packing, unheard, tilts, weights, the game, chance: V to IX, promises 43 to 59, 64, 65. */
+/** Edges of packing, what falls unheard, tilts, weights, the game and chance: V to IX, promises 43 to 59, 64, 65. */
 final class ReckonEdges {
     private ReckonEdges() {
     }
@@ -34,10 +34,12 @@ final class ReckonEdges {
         HopeBank over = of(1, Tell.pig(6, 9), Tell.hope(4, 0, 10), Tell.hope(3, 0, 7));
         Doc.edge("that no PIG holds more than its room", even.packs(), 17);
         Doc.edge("that no PIG holds more than its room", over.packs(), 10);
-        HopeBank told = of(2, Tell.pig(7, 9), Tell.hope(4, 0, 10), Tell.hope(3, 0, 7), Tell.drop(1, 0, 0), Tell.thief(0, 0, 9));
+        HopeBank told = of(2, Tell.pig(7, 9), Tell.hope(4, 0, 10), Tell.hope(3, 0, 7), Tell.drop(1, 0, 0),
+            Tell.thief(0, 0, 9));
         told.breaks(0, 0);
         told.drops(0, 0, 0);
-        Doc.edges("(all as told, empty)", new int[] {told.packs(), told.most(), told.packed(0), told.packed(1)}, 17, 2, 0, 0);
+        Doc.edges("(all as told, empty)", new int[] {told.packs(), told.most(), told.packed(0), told.packed(1)},
+            17, 2, 0, 0);
         Doc.at(43);
         // The dearest alone is less than the two others; and two pigs hold what one does not.
         HopeBank by = of(1, Tell.pig(6, 9), Tell.hope(6, 0, 30), Tell.hope(3, 0, 20), Tell.hope(3, 0, 20));
@@ -61,7 +63,8 @@ final class ReckonEdges {
         Check.feed(small, Tell.town(1, 0, 0, 0) + Tell.pig(6, 9) + Tell.hope(6, 0, 80) + Tell.hope(6, 0, 0));
         small.town();
         Doc.edge("The most HOPES in PIGS by any PACKING", small.most(), 1);
-        Doc.edges("The most HOPES in PIGS by any PACKING", new int[] {many.most(), all.most(), slot.most(), over.most()}, 5, 8, 1, 1);
+        Doc.edges("The most HOPES in PIGS by any PACKING", new int[] {many.most(), all.most(), slot.most(),
+            over.most()}, 5, 8, 1, 1);
         Doc.edge("The most HOPES in PIGS by any PACKING", of(1, Tell.hope(1, 0, 9)).most(), 0);
         Doc.edge("The most HOPES in PIGS by any PACKING", of(1).most(), 0);
         Doc.edge("-2: there is no TOWN", new HopeBank().most(), -2);
@@ -111,18 +114,20 @@ final class ReckonEdges {
         Doc.at("VI");
         String louds = Tell.hope(1, 3, 0) + Tell.hope(1, 4, 0) + Tell.hope(1, 5, 0);
         String pig = Tell.pig(9, 9);
-        Doc.edges("none of them KNOWN", new int[] {hushed(0, 2, pig, louds).unheard(0), hushed(0, 3, pig, louds).unheard(0),
-            hushed(0, 4, pig, louds).unheard(0), hushed(0, 5, pig, louds).unheard(0)}, 0, 1, 2, 3);
+        Doc.edges("none of them KNOWN", new int[] {hushed(0, 2, pig, louds).unheard(0),
+            hushed(0, 3, pig, louds).unheard(0), hushed(0, 4, pig, louds).unheard(0),
+            hushed(0, 5, pig, louds).unheard(0)}, 0, 1, 2, 3);
         // By law 1 it is 3, then 4 - 1, then 5 - 2.
-        Doc.edges("one behind the other (III)", new int[] {hushed(1, 2, pig, louds).unheard(0), hushed(1, 3, pig, louds).unheard(0)},
-            0, 3);
+        Doc.edges("one behind the other (III)", new int[] {hushed(1, 2, pig, louds).unheard(0),
+            hushed(1, 3, pig, louds).unheard(0)}, 0, 3);
         // By law 2 only the first is heard whole: 3, then 4 / 2, 5 / 2; and with quiet 1 none.
-        Doc.edges("one behind the other (III)", new int[] {hushed(2, 3, pig, louds).unheard(0), hushed(2, 1, pig, louds).unheard(0)},
-            3, 0);
+        Doc.edges("one behind the other (III)", new int[] {hushed(2, 3, pig, louds).unheard(0),
+            hushed(2, 1, pig, louds).unheard(0)}, 3, 0);
         // By law 3 one that fills the pig is heard 0 loud.
         HopeBank filling = hushed(3, 0, Tell.pig(3, 9), Tell.hope(1, 0, 0), Tell.hope(2, 9, 0), Tell.hope(3, 9, 0));
         Doc.edges("one behind the other (III)", new int[] {filling.unheard(0), filling.rows(0)}, 2, 1);
-        HopeBank fit = hushed(0, 9, Tell.pig(5, 3), Tell.hope(3, 0, 0), Tell.hope(2, 0, 0), Tell.hope(4, 0, 0), Tell.hope(1, 0, 0));
+        HopeBank fit = hushed(0, 9, Tell.pig(5, 3), Tell.hope(3, 0, 0), Tell.hope(2, 0, 0), Tell.hope(4, 0, 0),
+            Tell.hope(1, 0, 0));
         Doc.edges("UNHEARD: a row of HOPES that go into one PIG", new int[] {fit.unheard(0), fit.rows(0)}, 2, 6);
         HopeBank told = hushed(1, 2, pig, louds, Tell.drop(0, 0, 0), Tell.drop(1, 0, 0));
         told.breaks(0, 0);
@@ -147,17 +152,20 @@ final class ReckonEdges {
     private static void order() {
         Doc.at(47);
         String words = "HOPE i (from 0) of the first such row of so many (the least row)";
-        HopeBank later = hushed(0, 9, Tell.pig(4, 9), Tell.pig(1, 1), Tell.hope(4, 0, 0), Tell.hope(2, 0, 0), Tell.hope(2, 0, 0));
+        HopeBank later = hushed(0, 9, Tell.pig(4, 9), Tell.pig(1, 1), Tell.hope(4, 0, 0), Tell.hope(2, 0, 0),
+            Tell.hope(2, 0, 0));
         Doc.edges(words, new int[] {later.order(0, 0), later.order(0, 1)}, 1, 2);
-        Doc.edges("NONE: there is no such place in it", new int[] {later.order(0, 2), later.order(0, -1), later.order(1, 0),
-            later.order(0, Integer.MAX_VALUE), later.order(0, Integer.MIN_VALUE)}, -1, -1, -1, -1, -1);
+        Doc.edges("NONE: there is no such place in it", new int[] {later.order(0, 2), later.order(0, -1),
+            later.order(1, 0), later.order(0, Integer.MAX_VALUE), later.order(0, Integer.MIN_VALUE)},
+            -1, -1, -1, -1, -1);
         Doc.edge("-2 likewise", later.order(2, 0), -2);
         Doc.edge("-2 likewise", later.order(-1, 0), -2);
         Doc.edge("-2 likewise", later.order(-1, -1), -2);
         Doc.edge("-2 likewise", new HopeBank().order(0, 0), -2);
         // By law 1 each must wait for so many ahead of it: 5, 4, 3 with quiet 3 go 2, 1, 0.
         HopeBank turned = hushed(1, 3, Tell.pig(9, 9), Tell.hope(1, 5, 0), Tell.hope(1, 4, 0), Tell.hope(1, 3, 0));
-        Doc.edges(words, new int[] {turned.order(0, 0), turned.order(0, 1), turned.order(0, 2), turned.order(0, 3)}, 2, 1, 0, -1);
+        Doc.edges(words, new int[] {turned.order(0, 0), turned.order(0, 1), turned.order(0, 2), turned.order(0, 3)},
+            2, 1, 0, -1);
         HopeBank eight = hushed(0, 9, Tell.pig(8, 1), Tell.hope(1, 9, 0).repeat(8));
         for (int i = 0; i < 8; i++) {
             Doc.edge(words, eight.order(0, i), i);
@@ -165,7 +173,8 @@ final class ReckonEdges {
         Doc.edge("NONE: there is no such place in it", eight.order(0, 8), -1);
     }
 
-    private static final String SIZES = Tell.hope(1, 0, 0) + Tell.hope(4, 0, 0) + Tell.hope(4, 0, 0) + Tell.hope(9, 0, 0);
+    private static final String SIZES = Tell.hope(1, 0, 0) + Tell.hope(4, 0, 0) + Tell.hope(4, 0, 0)
+        + Tell.hope(9, 0, 0);
 
     static void put(HopeBank bank, int slot, int width, int... numbers) {
         bank.row(slot, width, numbers.length);
@@ -183,20 +192,21 @@ final class ReckonEdges {
     private static void tilts() {
         Doc.at("VII");
         String pig = Tell.pig(60, 9);
-        Doc.edges("all in a PIG of a size no more than that", new int[] {tiltsOf(pig, 3, 1), tiltsOf(pig, 4, 3), tiltsOf(pig, 4, 2),
-            tiltsOf(pig, 8, 0), tiltsOf(pig, 9, 0), tiltsOf(pig, 9, 4), tiltsOf(pig, 1, 1), tiltsOf(pig, 1, 2)}, 8, 2, 6, 2, 1, 1, 8, 0);
-        Doc.edges("how far (1 .. 9), how many HOPES came out", new int[] {tiltsOf(pig, 0, 0), tiltsOf(pig, 1, 0), tiltsOf(pig, 9, 1), tiltsOf(pig, 10, 0),
-            tiltsOf(pig, -1, 0)}, -2, 8, 4, -2, -2);
+        Doc.edges("all in a PIG of a size no more than that", new int[] {tiltsOf(pig, 3, 1), tiltsOf(pig, 4, 3),
+            tiltsOf(pig, 4, 2), tiltsOf(pig, 8, 0), tiltsOf(pig, 9, 0), tiltsOf(pig, 9, 4), tiltsOf(pig, 1, 1),
+            tiltsOf(pig, 1, 2)}, 8, 2, 6, 2, 1, 1, 8, 0);
+        Doc.edges("how far (1 .. 9), how many HOPES came out", new int[] {tiltsOf(pig, 0, 0), tiltsOf(pig, 1, 0),
+            tiltsOf(pig, 9, 1), tiltsOf(pig, 10, 0), tiltsOf(pig, -1, 0)}, -2, 8, 4, -2, -2);
         Doc.edges("Sets of HOPES that fit into a PIG together (by its slot, room)", new int[] {tiltsOf(Tell.pig(60, 8)),
             tiltsOf(Tell.pig(60, 4)), tiltsOf(Tell.pig(60, 3)), tiltsOf(Tell.pig(18, 9)), tiltsOf(Tell.pig(17, 9)),
             tiltsOf(Tell.pig(9, 9)), tiltsOf(Tell.pig(8, 9)), tiltsOf(Tell.pig(1, 1))}, 8, 8, 2, 16, 15, 9, 7, 2);
         HopeBank great = of(1, pig, Tell.hope(9, 0, 0), Tell.hope(1, 0, 0), Tell.hope(4, 0, 0));
         put(great, 0, 0, 4, 2);
         Doc.edges("all in a PIG of a size no more than that", new int[] {great.tilts(0, 0), great.surely(0, 0)}, 2, 6);
-        Doc.edges("of which it is so", new int[] {tiltsOf(pig, 1, 1, 4, 2), tiltsOf(pig, 1, 1, 4, 2, 9, 3), tiltsOf(pig, 1, 1, 1, 0),
-            tiltsOf(pig, 4, 2, 1, 1)}, 4, 2, 0, 4);
-        Doc.edges("TILTS: a SLOT's row, two numbers each", new int[] {tiltsOf(pig), tiltsOf(pig, 1), tiltsOf(pig, 1, 0, 4), tiltsOf(pig, 1, 0, 4, 2)},
-            16, -2, -2, 2);
+        Doc.edges("of which it is so", new int[] {tiltsOf(pig, 1, 1, 4, 2), tiltsOf(pig, 1, 1, 4, 2, 9, 3),
+            tiltsOf(pig, 1, 1, 1, 0), tiltsOf(pig, 4, 2, 1, 1)}, 4, 2, 0, 4);
+        Doc.edges("TILTS: a SLOT's row, two numbers each", new int[] {tiltsOf(pig), tiltsOf(pig, 1),
+            tiltsOf(pig, 1, 0, 4), tiltsOf(pig, 1, 0, 4, 2)}, 16, -2, -2, 2);
         Doc.at(49);
         Doc.edge("TILTS (VII): sets that fit a PIG and a SLOT's row: how many", tiltsOf(pig), 16);
         HopeBank eight = of(1, pig, Tell.hope(1, 0, 0).repeat(8));
@@ -212,8 +222,8 @@ final class ReckonEdges {
         Doc.edge("TILTS (VII): sets that fit a PIG and a SLOT's row", of(1, pig).tilts(0, 0), -6);
         HopeBank none = of(1, pig);
         none.row(0, 0, 0);
-        Doc.edges("TILTS (VII): sets that fit a PIG and a SLOT's row: how many", new int[] {none.tilts(0, 0), none.surely(0, 0), none.never(0, 0)},
-            1, 0, 0);
+        Doc.edges("TILTS (VII): sets that fit a PIG and a SLOT's row: how many",
+            new int[] {none.tilts(0, 0), none.surely(0, 0), none.never(0, 0)}, 1, 0, 0);
         // Thirty tilts at most.
         int[] long60 = new int[60];
         for (int i = 0; i < 60; i += 2) {
@@ -264,10 +274,12 @@ final class ReckonEdges {
         put(bank, 3, 0, 4, 3, 9, 3);
         Doc.at(50);
         // Slot 0: hopes 0, 1, 2 and perhaps 3. Slot 1: none is so. Slot 2: all sets.
-        Doc.edges("HOPES that are in all of these, as bits", new int[] {bank.surely(0, 0), bank.surely(2, 0), bank.surely(3, 0)}, 7, 0, 7);
+        Doc.edges("HOPES that are in all of these, as bits", new int[] {bank.surely(0, 0), bank.surely(2, 0),
+            bank.surely(3, 0)}, 7, 0, 7);
         Doc.edge("NONE: there are none", bank.surely(1, 0), -1);
         Doc.at(51);
-        Doc.edges("HOPES that are in none of them, as bits", new int[] {bank.never(0, 0), bank.never(2, 0), bank.never(3, 0)}, 0, 0, 8);
+        Doc.edges("HOPES that are in none of them, as bits", new int[] {bank.never(0, 0), bank.never(2, 0),
+            bank.never(3, 0)}, 0, 0, 8);
         Doc.edge("NONE, -2, -6 likewise", bank.never(1, 0), -1);
         HopeBank narrow = of(1, Tell.pig(60, 3), SIZES);
         narrow.row(0, 0, 0);
@@ -287,12 +299,13 @@ final class ReckonEdges {
         put(bank, 3, 0, 1, 0, 4, 1, 9, 1);
         Doc.edge("NONE: none", bank.ask(3, 0), -1);
         Doc.at(53);
-        Doc.edges("How many it leaves at worst (as now without)", new int[] {bank.leaves(2, 0), bank.leaves(0, 0), bank.leaves(1, 0),
-            bank.leaves(3, 0), narrow.leaves(0, 0)}, 6, 1, 0, 2, 1);
+        Doc.edges("How many it leaves at worst (as now without)", new int[] {bank.leaves(2, 0), bank.leaves(0, 0),
+            bank.leaves(1, 0), bank.leaves(3, 0), narrow.leaves(0, 0)}, 6, 1, 0, 2, 1);
         // Seven of eight are in it: eight sets, which no tilt parts.
         HopeBank eight = of(1, Tell.pig(60, 9), Tell.hope(1, 0, 0).repeat(8));
         put(eight, 0, 0, 9, 7);
-        Doc.edges("How many it leaves at worst (as now without)", new int[] {eight.leaves(0, 0), eight.ask(0, 0)}, 8, -1);
+        Doc.edges("How many it leaves at worst (as now without)", new int[] {eight.leaves(0, 0), eight.ask(0, 0)},
+            8, -1);
     }
 
     private static void weights() {
@@ -303,33 +316,37 @@ final class ReckonEdges {
         }
         HopeBank bank = of(2, Tell.pig(60, 9), Tell.pig(9, 9), sixty, drops.toString());
         Doc.at(54);
-        String words = "LIGHTER: of HOPES in a PIG at the end of a NIGHT sets that weigh n (0 .. 60) together: how many";
-        Doc.edges(words, new int[] {bank.lighter(0, 1, 60), bank.lighter(0, 0, 60), bank.lighter(0, 0, 54), bank.lighter(0, 0, 9),
-            bank.lighter(0, 0, 18), bank.lighter(0, 1, 6), bank.lighter(0, 0, 6), bank.lighter(0, 1, 59)}, 1, 0, 1, 6, 15, 1, 0, 0);
+        String words = "LIGHTER: of HOPES in a PIG at the end of a NIGHT sets that weigh n (0 .. 60) together: "
+            + "how many";
+        Doc.edges(words, new int[] {bank.lighter(0, 1, 60), bank.lighter(0, 0, 60), bank.lighter(0, 0, 54),
+            bank.lighter(0, 0, 9), bank.lighter(0, 0, 18), bank.lighter(0, 1, 6), bank.lighter(0, 0, 6),
+            bank.lighter(0, 1, 59)}, 1, 0, 1, 6, 15, 1, 0, 0);
         Doc.edges(words, new int[] {bank.lighter(0, 0, 0), bank.lighter(1, 0, 0), bank.lighter(1, 0, 1)}, 1, 1, 0);
-        HopeBank whole = of(1, Tell.pig(9, 9), Tell.hope(4, 0, 0), Tell.hope(5, 0, 0), Tell.drop(0, 0, 0), Tell.drop(1, 0, 0));
+        HopeBank whole = of(1, Tell.pig(9, 9), Tell.hope(4, 0, 0), Tell.hope(5, 0, 0), Tell.drop(0, 0, 0),
+            Tell.drop(1, 0, 0));
         Doc.edges(words, new int[] {whole.lighter(0, 0, 9), whole.lighter(0, 0, 4), whole.lighter(0, 0, 8)}, 1, 1, 0);
         // Hope 7 is out: no set has it.
         Doc.edge(words, bank.lighter(0, 0, 1), 0);
         Wrong.three("-2: there are none such", bank::lighter, 2, 2, 61);
         Doc.edge("-2: there are none such", new HopeBank().lighter(0, 0, 0), -2);
         Doc.at(55);
-        HopeBank few = of(1, Tell.pig(60, 9), Tell.hope(1, 0, 0), Tell.hope(2, 0, 0), Tell.hope(3, 0, 0), Tell.hope(3, 0, 0),
-            Tell.drop(0, 0, 0), Tell.drop(1, 0, 0), Tell.drop(2, 0, 0), Tell.drop(3, 0, 0));
+        HopeBank few = of(1, Tell.pig(60, 9), Tell.hope(1, 0, 0), Tell.hope(2, 0, 0), Tell.hope(3, 0, 0),
+            Tell.hope(3, 0, 0), Tell.drop(0, 0, 0), Tell.drop(1, 0, 0), Tell.drop(2, 0, 0), Tell.drop(3, 0, 0));
         Doc.edges("The least set of fewest HOPES of these, as bits", new int[] {few.taken(0, 0, 3), few.taken(0, 0, 6),
             few.taken(0, 0, 5), few.taken(0, 0, 9), few.taken(0, 0, 0)}, 4, 12, 6, 15, 0);
-        Doc.edges("The least set of fewest HOPES of these, as bits", new int[] {bank.taken(0, 1, 60), bank.taken(0, 1, 15)}, 127, 65);
-        Doc.edges("NONE: none", new int[] {few.taken(0, 0, 10), few.taken(0, 0, 60), bank.taken(1, 0, 1), bank.taken(0, 0, 1)},
-            -1, -1, -1, -1);
+        Doc.edges("The least set of fewest HOPES of these, as bits",
+            new int[] {bank.taken(0, 1, 60), bank.taken(0, 1, 15)}, 127, 65);
+        Doc.edges("NONE: none", new int[] {few.taken(0, 0, 10), few.taken(0, 0, 60), bank.taken(1, 0, 1),
+            bank.taken(0, 0, 1)}, -1, -1, -1, -1);
         Wrong.three("-2 likewise", bank::taken, 2, 2, 61);
         Doc.edge("-2 likewise", new HopeBank().taken(0, 0, 0), -2);
     }
 
     /** Pig 0 is worth 20, 0, 0; pig 1 is worth 10, 11, 12; pig 2 nothing ever; pig 3 is worth 0, 5, 5. */
     private static HopeBank players() {
-        return of(3, Tell.pig(9, 9).repeat(4), Tell.hope(1, 0, 20), Tell.hope(1, 0, 10), Tell.hope(2, 0, 5), Tell.hope(1, 0, 3),
-            Tell.hope(2, 0, 5), Tell.drop(0, 0, 0), Tell.thief(1, 0, 1), Tell.drop(1, 1, 0), Tell.drop(2, 3, 1), Tell.thief(2, 3, 9),
-            Tell.drop(4, 3, 2));
+        return of(3, Tell.pig(9, 9).repeat(4), Tell.hope(1, 0, 20), Tell.hope(1, 0, 10), Tell.hope(2, 0, 5),
+            Tell.hope(1, 0, 3), Tell.hope(2, 0, 5), Tell.drop(0, 0, 0), Tell.thief(1, 0, 1), Tell.drop(1, 1, 0),
+            Tell.drop(2, 3, 1), Tell.thief(2, 3, 9), Tell.drop(4, 3, 2));
     }
 
     private static int[] four(HopeBank bank, int pig, int other) {
@@ -356,14 +373,15 @@ final class ReckonEdges {
         bank.drops(3, 2, 0);
         Doc.edges("as if no PIG were broken by acts", four(bank, 2, 0), 5 - 9, 5 - 9, 5, 5);
         Doc.at(57);
-        Doc.edges("What the child of the first of two GETS by the choices (1 at its greatest, 0 at the last NIGHT; below 0, too)",
+        Doc.edges("What the child of the first of two GETS by the choices (1 at its greatest, 0 at the last NIGHT;",
             four(players(), 0, 1), -9, 20, -9, 20);
         HopeBank one = of(1, Tell.pig(9, 9).repeat(2), Tell.hope(1, 0, 20), Tell.drop(0, 0, 0));
         Doc.edges("below 0, too", four(one, 1, 0), -9, -9, -9, -9);
         Doc.edges("by the choices", four(one, 0, 1), 11, 11, 11, 11);
         String none = "-1,000: there are none such, one twice";
-        int[][] wrong = {{0, 0, 0, 0}, {3, 3, 1, 0}, {-1, 0, 0, 0}, {4, 0, 0, 0}, {0, -1, 0, 0}, {0, 4, 0, 0}, {0, 1, 2, 0}, {0, 1, -1, 0},
-            {0, 1, 0, 2}, {0, 1, 0, -1}, {-1, -1, 0, 0}, {Integer.MAX_VALUE, 0, 0, 0}, {0, 1, Integer.MIN_VALUE, 0}};
+        int[][] wrong = {{0, 0, 0, 0}, {3, 3, 1, 0}, {-1, 0, 0, 0}, {4, 0, 0, 0}, {0, -1, 0, 0}, {0, 4, 0, 0},
+            {0, 1, 2, 0}, {0, 1, -1, 0}, {0, 1, 0, 2}, {0, 1, 0, -1}, {-1, -1, 0, 0}, {Integer.MAX_VALUE, 0, 0, 0},
+            {0, 1, Integer.MIN_VALUE, 0}};
         for (int[] w : wrong) {
             Doc.edge(none, bank.gets(w[0], w[1], w[2], w[3]), -1000);
         }
@@ -375,7 +393,8 @@ final class ReckonEdges {
         HopeBank bank = players();
         Doc.at(56);
         // Pig 0 is better at its greatest, pig 1 has one choice: it rests by both.
-        Doc.edges("2 the first one at its greatest, 4 the other one, 8 both", new int[] {bank.rests(0, 1), bank.rests(1, 0)}, 2 + 8, 4 + 8);
+        Doc.edges("2 the first one at its greatest, 4 the other one, 8 both",
+            new int[] {bank.rests(0, 1), bank.rests(1, 0)}, 2 + 8, 4 + 8);
         HopeBank empty = of(2, Tell.pig(9, 9).repeat(2));
         Doc.edge("GAME (VIII): pairs of choices of two PIGS at REST, as bits", empty.rests(0, 1), 2 + 4);
         HopeBank one = of(1, Tell.pig(9, 9).repeat(2));
@@ -386,16 +405,17 @@ final class ReckonEdges {
         broken.breaks(1, 0);
         Doc.edge("pairs of choices of two PIGS at REST", broken.rests(0, 1), 2 + 8);
         String none = "-2: there are none such, one twice";
-        int[][] wrong = {{0, 0}, {3, 3}, {-1, 0}, {4, 0}, {0, -1}, {0, 4}, {Integer.MAX_VALUE, 0}, {0, Integer.MIN_VALUE}};
+        int[][] wrong = {{0, 0}, {3, 3}, {-1, 0}, {4, 0}, {0, -1}, {0, 4}, {Integer.MAX_VALUE, 0},
+            {0, Integer.MIN_VALUE}};
         for (int[] w : wrong) {
             Doc.edge(none, bank.rests(w[0], w[1]), -2);
         }
         Doc.edge(none, new HopeBank().rests(0, 1), -2);
         Doc.at("VIII");
-        // Each is worth 9 more at its greatest, night 0, than at the last: with both there it is as much as at the last.
-        String two = Tell.pig(9, 9).repeat(2) + Tell.hope(1, 0, 20) + Tell.hope(2, 0, 10) + Tell.hope(1, 0, 20) + Tell.hope(2, 0, 10)
-            + Tell.drop(0, 0, 0) + Tell.drop(1, 0, 1) + Tell.drop(2, 1, 0) + Tell.drop(3, 1, 1) + Tell.thief(1, 0, 1)
-            + Tell.thief(1, 1, 1);
+        // Each is worth so much at night 0, its greatest, and less at the last; both at night 0 lose nine.
+        String two = Tell.pig(9, 9).repeat(2) + Tell.hope(1, 0, 20) + Tell.hope(2, 0, 10) + Tell.hope(1, 0, 20)
+            + Tell.hope(2, 0, 10) + Tell.drop(0, 0, 0) + Tell.drop(1, 0, 1) + Tell.drop(2, 1, 0) + Tell.drop(3, 1, 1)
+            + Tell.thief(1, 0, 1) + Tell.thief(1, 1, 1);
         // Worth 20 and 10: at the greatest together 11 is more than 10 apart, so both.
         HopeBank both = of(2, two);
         Doc.edge("REST: neither GETS more by the other choice alone", both.rests(0, 1), 8);
@@ -435,8 +455,8 @@ final class ReckonEdges {
         fraction("FRACTIONS are told in lowest terms (0 / 1)", odds(1, 10, one, thief, thief)::chance, 0, 0, 0, 1);
         fraction("FRACTIONS are told in lowest terms (0 / 1)", odds(1, 5, one, thief, thief)::chance, 0, 0, 1, 4);
         Doc.at(58);
-        HopeBank bank = odds(3, 4, Tell.pig(9, 9), Tell.hope(1, 0, 5), Tell.hope(2, 0, 7), Tell.drop(0, 0, 1), Tell.thief(2, 0, 1),
-            Tell.thief(7, 0, 9));
+        HopeBank bank = odds(3, 4, Tell.pig(9, 9), Tell.hope(1, 0, 5), Tell.hope(2, 0, 7), Tell.drop(0, 0, 1),
+            Tell.thief(2, 0, 1), Tell.thief(7, 0, 9));
         String in = "CHANCE (IX): that a HOPE is in a PIG at the end of a NIGHT, above (what 0), below (1)";
         fraction(in, bank::chance, 0, 0, 0, 1);
         fraction(in, bank::chance, 0, 1, 1, 1);
@@ -467,7 +487,8 @@ final class ReckonEdges {
         HopeBank robbed = odds(20, 3, eight.toString(), Tell.thief(19, 0, 9).repeat(6));
         fraction(words, robbed::mean, 0, 19, 3069, 5);
         Doc.edge(words, robbed.mean(0, 18, 0), 8 * 98);
-        HopeBank bank = odds(3, 4, Tell.pig(9, 9).repeat(2), Tell.hope(1, 0, 5), Tell.drop(0, 0, 1), Tell.thief(2, 0, 1));
+        HopeBank bank = odds(3, 4, Tell.pig(9, 9).repeat(2), Tell.hope(1, 0, 5), Tell.drop(0, 0, 1),
+            Tell.thief(2, 0, 1));
         fraction(words, bank::mean, 0, 0, 0, 1);
         fraction(words, bank::mean, 0, 1, 5, 1);
         fraction(words, bank::mean, 0, 2, 18, 5);
@@ -486,8 +507,8 @@ final class ReckonEdges {
     }
 
     private static void draws() {
-        String six = Tell.pig(9, 9) + Tell.hope(1, 0, 20) + Tell.hope(2, 0, 30) + Tell.drop(0, 0, 0) + Tell.drop(1, 0, 0)
-            + Tell.thief(1, 0, 1) + Tell.thief(7, 0, 9).repeat(5);
+        String six = Tell.pig(9, 9) + Tell.hope(1, 0, 20) + Tell.hope(2, 0, 30) + Tell.drop(0, 0, 0)
+            + Tell.drop(1, 0, 0) + Tell.thief(1, 0, 1) + Tell.thief(7, 0, 9).repeat(5);
         Doc.at("IX");
         int[] seeds = {0, 1, 7, 65535, 65536, 1999999999, 2000000000};
         for (int odds = 0; odds <= 10; odds++) {
@@ -497,7 +518,8 @@ final class ReckonEdges {
                 for (int t = 0; t < 6; t++) {
                     comers |= drawOf(seed, t) < odds ? 1 << t : 0;
                 }
-                Doc.edge("DRAWS: x becomes (1103515245 x + 12345) modulo 2,147,483,648 (at first it is the seed)", bank.drawn(seed, 0), comers);
+                Doc.edge("DRAWS: x becomes (1103515245 x + 12345) modulo 2,147,483,648 (at first it is the seed)",
+                    bank.drawn(seed, 0), comers);
                 Doc.edge("a draw: x / 65536, cut, modulo 10", bank.drawn(seed, 0), comers);
                 Doc.edge("YEAR drawn: THIEF by THIEF a draw", bank.drawn(seed, 0), comers);
                 Doc.edge("below odds he comes", bank.drawn(seed, 1), (comers & 1) == 1 ? 32 : 54);
@@ -518,16 +540,16 @@ final class ReckonEdges {
         Doc.edge("YEAR drawn (IX) from a seed (0 .. 2,000,000,000)", bank.drawn(2000000000, 0), 63);
         String none = "-2: there are none such, no TOWN";
         Doc.edges(none, new int[] {bank.drawn(2000000001, 0), bank.drawn(-1, 0), bank.drawn(Integer.MIN_VALUE, 1),
-            bank.drawn(Integer.MAX_VALUE, 1), bank.drawn(0, 2), bank.drawn(0, -1), new HopeBank().drawn(0, 0), new HopeBank().drawn(0, 1)},
-            -2, -2, -2, -2, -2, -2, -2, -2);
+            bank.drawn(Integer.MAX_VALUE, 1), bank.drawn(0, 2), bank.drawn(0, -1), new HopeBank().drawn(0, 0),
+            new HopeBank().drawn(0, 1)}, -2, -2, -2, -2, -2, -2, -2, -2);
         bank.breaks(0, 2);
         Doc.edge("1: VALUE of all PIGS at the last NIGHT's end", bank.drawn(0, 1), 0);
     }
 
     private static void luck() {
         Doc.at(65);
-        String one = Tell.pig(9, 9) + Tell.hope(1, 0, 20) + Tell.hope(2, 0, 30) + Tell.drop(0, 0, 0) + Tell.drop(1, 0, 0)
-            + Tell.thief(1, 0, 1);
+        String one = Tell.pig(9, 9) + Tell.hope(1, 0, 20) + Tell.hope(2, 0, 30) + Tell.drop(0, 0, 0)
+            + Tell.drop(1, 0, 0) + Tell.thief(1, 0, 1);
         HopeBank bank = odds(3, 5, one);
         String words = "Of n (1 .. 20) such from seeds, the seed and 1, .., in how many a HOPE is stolen";
         int[] seeds = {0, 7, 1000, 1999999981, 2000000000};
@@ -539,11 +561,11 @@ final class ReckonEdges {
             }
             Doc.edge(words, bank.luck(seed, 20, 1), 0);
         }
-        Doc.edges(words, new int[] {odds(3, 10, one).luck(0, 20, 0), odds(3, 0, one).luck(0, 20, 0), odds(3, 10, one).luck(0, 1, 0)},
-            20, 0, 1);
+        Doc.edges(words, new int[] {odds(3, 10, one).luck(0, 20, 0), odds(3, 0, one).luck(0, 20, 0),
+            odds(3, 10, one).luck(0, 1, 0)}, 20, 0, 1);
         Doc.edges("-2: there are none such", new int[] {bank.luck(0, 0, 0), bank.luck(0, 21, 0), bank.luck(0, -1, 0),
-            bank.luck(0, Integer.MAX_VALUE, 0), bank.luck(-1, 1, 0), bank.luck(2000000001, 1, 0), bank.luck(0, 1, 2), bank.luck(0, 1, -1),
-            new HopeBank().luck(0, 1, 0)}, -2, -2, -2, -2, -2, -2, -2, -2, -2);
+            bank.luck(0, Integer.MAX_VALUE, 0), bank.luck(-1, 1, 0), bank.luck(2000000001, 1, 0), bank.luck(0, 1, 2),
+            bank.luck(0, 1, -1), new HopeBank().luck(0, 1, 0)}, -2, -2, -2, -2, -2, -2, -2, -2, -2);
         bank.breaks(0, 0);
         Doc.edge(words, bank.luck(0, 20, 0), 0);
     }

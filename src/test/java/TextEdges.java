@@ -94,7 +94,8 @@ final class TextEdges {
                 faulty(line, text + (number ? "" : parts[i] + "s"), 1, text.length());
                 faulty(line, text + (number ? "" : parts[i].substring(1)), 1, text.length());
                 faulty(line, text + (number ? "x" : "x" + parts[i].substring(1)), 1, text.length());
-                faulty(line, text + (number ? "x" : parts[i].substring(0, parts[i].length() - 1) + "x"), 1, text.length());
+                faulty(line, text + (number ? "x" : parts[i].substring(0, parts[i].length() - 1) + "x"), 1,
+                    text.length());
             }
             text.append(number ? "1" : parts[i]).append(' ');
         }
@@ -152,16 +153,16 @@ final class TextEdges {
         int[] nights = {1, 2, 20};
         for (int many : nights) {
             HopeBank bank = Check.bankOf(Tell.town(many, 0, 0, 0));
-            Doc.edges("NIGHTS 0 .. nights less 1", new int[] {bank.all(-1), bank.all(0), bank.all(many - 1), bank.all(many)},
-                -2, 0, 0, -2);
+            Doc.edges("NIGHTS 0 .. nights less 1", new int[] {bank.all(-1), bank.all(0), bank.all(many - 1),
+                bank.all(many)}, -2, 0, 0, -2);
         }
         HopeBank full = Check.bankOf(FULL);
         Doc.edges("PIGS 0 .. 4", new int[] {full.pig(3, 0), full.pig(4, 0), full.pig(5, 0)}, 5, 60, -2);
         Doc.edges("HOPES 0 .. 7", new int[] {full.hope(6, 2), full.hope(7, 2), full.hope(8, 2)}, 1, 80, -2);
         Doc.edges("DROPS 0 .. 9", new int[] {full.drop(8, 2), full.drop(9, 2), full.drop(10, 2)}, 0, 19, -2);
         Doc.edges("THIEVES 0 .. 5", new int[] {full.thief(4, 2), full.thief(5, 2), full.thief(6, 2)}, 1, 9, -2);
-        HopeBank mixed = Check.bankOf(HEAD + Tell.hope(1, 0, 0) + Tell.pig(7, 1) + Tell.hope(2, 0, 0) + Tell.thief(3, 0, 1)
-            + Tell.pig(8, 1) + Tell.drop(1, 1, 2) + Tell.hope(3, 0, 0));
+        HopeBank mixed = Check.bankOf(HEAD + Tell.hope(1, 0, 0) + Tell.pig(7, 1) + Tell.hope(2, 0, 0)
+            + Tell.thief(3, 0, 1) + Tell.pig(8, 1) + Tell.drop(1, 1, 2) + Tell.hope(3, 0, 0));
         Doc.edges("are numbered as they stand", new int[] {mixed.pig(0, 0), mixed.pig(1, 0), mixed.hope(0, 0),
             mixed.hope(1, 0), mixed.hope(2, 0), mixed.drop(0, 2), mixed.thief(0, 0)}, 7, 8, 1, 2, 3, 2, 3);
     }
@@ -219,7 +220,8 @@ final class TextEdges {
         faulty("town behind the first LINE", "town town", 1, 5);
         faulty("another word ahead of it", "pig", 1, 0);
         faulty("another word ahead of it", "nights", 1, 0);
-        String[] wide = {"21", "99", "100", "2147483647", "2147483648", "4294967297", "4294967300", "18446744073709551617"};
+        String[] wide = {"21", "99", "100", "2147483647", "2147483648", "4294967297", "4294967300",
+            "18446744073709551617"};
         for (String number : wide) {
             faulty("2 a number out of its bounds", "town nights " + number + " law", 2, 12);
         }
@@ -241,21 +243,21 @@ final class TextEdges {
     private static void newObject() {
         Doc.at(1);
         HopeBank bank = new HopeBank();
-        Doc.edges("No TOWN", new int[] {bank.misses(), bank.silent(), bank.crowd(), bank.victims(), bank.known(), bank.loss(),
-            bank.out(), bank.ward(), bank.packs(), bank.most(), bank.undo(), bank.anew(), bank.drawn(0, 0), bank.drawn(0, 1)},
-            -2, -2, -2, -2, -2, -2, -2, -2, -2, -2, -2, -2, -2, -2);
-        Doc.edges("No TOWN", new int[] {bank.pig(0, 0), bank.hope(0, 0), bank.drop(0, 0), bank.thief(0, 0), bank.empties(0),
-            bank.heavy(0), bank.all(0), bank.stolen(0), bank.got(0), bank.loudest(0), bank.loud(0), bank.gains(0),
-            bank.tight(0), bank.falls(0), bank.heard(0), bank.takes(0), bank.full(0), bank.best(0), bank.needs(0)},
-            -2, -2, -2, -2, -2, -2, -2, -2, -2, -2, -2, -2, -2, -2, -2, -2, -2, -2, -2);
+        Doc.edges("No TOWN", new int[] {bank.misses(), bank.silent(), bank.crowd(), bank.victims(), bank.known(),
+            bank.loss(), bank.out(), bank.ward(), bank.packs(), bank.most(), bank.undo(), bank.anew(), bank.drawn(0, 0),
+            bank.drawn(0, 1)}, -2, -2, -2, -2, -2, -2, -2, -2, -2, -2, -2, -2, -2, -2);
+        Doc.edges("No TOWN", new int[] {bank.pig(0, 0), bank.hope(0, 0), bank.drop(0, 0), bank.thief(0, 0),
+            bank.empties(0), bank.heavy(0), bank.all(0), bank.stolen(0), bank.got(0), bank.loudest(0), bank.loud(0),
+            bank.gains(0), bank.tight(0), bank.falls(0), bank.heard(0), bank.takes(0), bank.full(0), bank.best(0),
+            bank.needs(0)}, -2, -2, -2, -2, -2, -2, -2, -2, -2, -2, -2, -2, -2, -2, -2, -2, -2, -2, -2);
         Doc.edges("No TOWN", new int[] {bank.oldest(0, 0), bank.small(0, 0), bank.rich(0, 0), bank.within(0, 0),
             bank.where(0, 0), bank.weight(0, 0), bank.left(0, 0), bank.rattle(0, 0), bank.value(0, 0), bank.may(0, 0),
             bank.packed(0), bank.unheard(0), bank.order(0, 0), bank.rows(0), bank.tilts(0, 0), bank.surely(0, 0),
             bank.never(0, 0), bank.ask(0, 0), bank.leaves(0, 0)},
             -2, -2, -2, -2, -2, -2, -2, -2, -2, -2, -2, -2, -2, -2, -2, -2, -2, -2, -2);
-        Doc.edges("No TOWN", new int[] {bank.lighter(0, 0, 0), bank.taken(0, 0, 0), bank.rests(0, 1), bank.gets(0, 1, 0, 0),
-            bank.chance(0, 0, 0), bank.mean(0, 0, 0), bank.drops(0, 0, 0), bank.breaks(0, 0), bank.luck(0, 1, 0),
-            bank.rate(0, 0)}, -2, -2, -2, -1000, -2, -2, -2, -2, -2, -2);
+        Doc.edges("No TOWN", new int[] {bank.lighter(0, 0, 0), bank.taken(0, 0, 0), bank.rests(0, 1),
+            bank.gets(0, 1, 0, 0), bank.chance(0, 0, 0), bank.mean(0, 0, 0), bank.drops(0, 0, 0), bank.breaks(0, 0),
+            bank.luck(0, 1, 0), bank.rate(0, 0)}, -2, -2, -2, -1000, -2, -2, -2, -2, -2, -2);
         for (int what = 0; what <= 11; what++) {
             Doc.edge("No TOWN", bank.count(what), 0);
         }
@@ -268,12 +270,15 @@ final class TextEdges {
         int nights = 'n' << 24 | 'i' << 16 | 'g' << 8 | 'h';
         Doc.edge("Twenty bytes come behind the TAPE", bank.feed(town, 0x20202020, nights, 0x74732039, 0x39202020), 20);
         // "town    nights 99   ": four of each number, the highest first, and the numbers in their order.
-        Doc.edges("four of each number, the highest first", new int[] {bank.town(), bank.fault(0), bank.fault(1)}, -4, 2, 15);
+        Doc.edges("four of each number, the highest first", new int[] {bank.town(), bank.fault(0), bank.fault(1)},
+            -4, 2, 15);
         Doc.edge("Twenty bytes come behind the TAPE", bank.feed(0, 0, 0, 0, 0), 40);
-        Doc.edges("four of each number, the highest first", new int[] {bank.town(), bank.fault(0), bank.fault(1)}, -4, 2, 15);
+        Doc.edges("four of each number, the highest first", new int[] {bank.town(), bank.fault(0), bank.fault(1)},
+            -4, 2, 15);
         HopeBank other = new HopeBank();
         other.feed(0x20202020, 0x20202020, 0x20202020, 0x20202020, 0x202020FF);
-        Doc.edges("four of each number, the highest first", new int[] {other.town(), other.fault(0), other.fault(1)}, -4, 1, 19);
+        Doc.edges("four of each number, the highest first", new int[] {other.town(), other.fault(0), other.fault(1)},
+            -4, 1, 19);
         Doc.edge("how many it has", other.feed(-1, -1, -1, -1, -1), 40);
         tapeFull();
     }
@@ -335,14 +340,15 @@ final class TextEdges {
         bank.image(0);
         Check.feed(bank, Tell.town(7, 3, 9, 10) + Tell.pig(60, 9) + Tell.pig(1, 1));
         Doc.edge("how many LINES", bank.town(), 3);
-        Doc.edges("(in place of another)", new int[] {bank.count(0), bank.count(1), bank.count(2), bank.count(3), bank.pig(0, 0),
-            bank.pig(1, 1), bank.hope(0, 0), bank.drop(0, 0), bank.thief(0, 0), bank.count(9)}, 7, 3, 9, 10, 60, 1, -2, -2, -2, 3);
+        Doc.edges("(in place of another)", new int[] {bank.count(0), bank.count(1), bank.count(2), bank.count(3),
+            bank.pig(0, 0), bank.pig(1, 1), bank.hope(0, 0), bank.drop(0, 0), bank.thief(0, 0), bank.count(9)},
+            7, 3, 9, 10, 60, 1, -2, -2, -2, 3);
         Doc.edge("nothing done", bank.count(8), 0);
         Doc.edge("nothing done", bank.undo(), -5);
         Doc.edge("how many LINES", read(FULL)[0], 30);
         Doc.edge("0: there is none then", bank.town(), 0);
-        Doc.edges("0: there is none then", new int[] {bank.pig(0, 0), bank.misses(), bank.anew(), bank.all(0), bank.count(0),
-            bank.count(4), bank.count(9)}, -2, -2, -2, -2, 0, 0, 0);
+        Doc.edges("0: there is none then", new int[] {bank.pig(0, 0), bank.misses(), bank.anew(), bank.all(0),
+            bank.count(0), bank.count(4), bank.count(9)}, -2, -2, -2, -2, 0, 0, 0);
         Check.feed(bank, " \n ");
         Doc.edge("0: there is none then", bank.town(), 0);
         Doc.edge("(empty then)", bank.count(10), 0);
@@ -361,8 +367,9 @@ final class TextEdges {
             bank.end(0);
             Check.feed(bank, text);
             Doc.edge("-4: a FAULT", bank.town(), -4);
-            Doc.edges("(all stays)", new int[] {bank.count(0), bank.count(4), bank.count(5), bank.count(6), bank.count(8),
-                bank.count(9), bank.count(11), bank.where(0, 1), bank.where(0, 2)}, 4, 1, 1, 1, 1, 4, 1, 0, -12);
+            Doc.edges("(all stays)", new int[] {bank.count(0), bank.count(4), bank.count(5), bank.count(6),
+                bank.count(8), bank.count(9), bank.count(11), bank.where(0, 1), bank.where(0, 2)},
+                4, 1, 1, 1, 1, 4, 1, 0, -12);
             Doc.edge("(all stays)", bank.count(10), text.length());
             Doc.edge("-4: a FAULT", bank.town(), -4);
         }
@@ -413,12 +420,14 @@ final class TextEdges {
         Doc.at(7);
         table("Of a HOPE, what 0: size, 1: loud, 2: worth", bank::hope, new int[][] {{9, 8, 80}, {1, 0, 0}});
         Doc.at(8);
-        table("Of a DROP as told, what 0: its HOPE, 1: its PIG, 2: its NIGHT", bank::drop, new int[][] {{1, 0, 19}, {0, 1, 0}});
+        table("Of a DROP as told, what 0: its HOPE, 1: its PIG, 2: its NIGHT", bank::drop,
+            new int[][] {{1, 0, 19}, {0, 1, 0}});
         // An act is no drop told.
         bank.drops(0, 0, 0);
         Doc.edge("Of a DROP as told", bank.drop(2, 0), -2);
         Doc.at(9);
-        table("Of a THIEF, what 0: his NIGHT, 1: the PIG, 2: fingers", bank::thief, new int[][] {{19, 1, 9}, {0, 0, 1}});
+        table("Of a THIEF, what 0: his NIGHT, 1: the PIG, 2: fingers", bank::thief,
+            new int[][] {{19, 1, 9}, {0, 0, 1}});
     }
 
     private static void table(String words, Wrong.Two call, int[][] rows) {
@@ -432,10 +441,10 @@ final class TextEdges {
 
     private static void count() {
         Doc.at(67);
-        HopeBank bank = Check.bankOf(Tell.town(20, 3, 9, 10) + Tell.pig(9, 9).repeat(5) + HOPE.repeat(8) + DROP.repeat(10)
-            + THIEF.repeat(6));
-        String[] words = {"0 nights", "1 LAW", "2 quiet", "3 odds", "4 PIGS", "5 HOPES", "6 DROPS", "7 THIEVES", "8 acts",
-            "9 LINES", "10 bytes of the TAPE", "11 SLOTS that have a row"};
+        HopeBank bank = Check.bankOf(Tell.town(20, 3, 9, 10) + Tell.pig(9, 9).repeat(5) + HOPE.repeat(8)
+            + DROP.repeat(10) + THIEF.repeat(6));
+        String[] words = {"0 nights", "1 LAW", "2 quiet", "3 odds", "4 PIGS", "5 HOPES", "6 DROPS", "7 THIEVES",
+            "8 acts", "9 LINES", "10 bytes of the TAPE", "11 SLOTS that have a row"};
         int[] most = {20, 3, 9, 10, 5, 8, 10, 6, 30, 30, 900, 4};
         for (int i = 0; i < 31; i++) {
             bank.breaks(4, 19);
