@@ -29,11 +29,15 @@ public final class FaceTest {
         Check.due("so many methods", methods.size(), 71);
         fieldsAndConstructors();
         privateNames(HopeBank.class, publicNames);
+        Check.due("no more than twelve classes", Math.max(12, 1 + HopeBank.class.getDeclaredClasses().length), 12);
+        fewFields(HopeBank.class);
         for (Class<?> inside : HopeBank.class.getDeclaredClasses()) {
             Check.due(inside.getName() + " is static", Modifier.isStatic(inside.getModifiers()) ? 1 : 0, 1);
             privateNames(inside, publicNames);
+            fewFields(inside);
         }
         words();
+        methodsByLines();
         Check.close();
     }
 
@@ -82,6 +86,42 @@ public final class FaceTest {
             Check.due(type.getName() + "." + method.getName() + " has too many parameters",
                 method.getParameterCount() > 7 ? 1 : 0, 0);
         }
+    }
+
+    private static void fewFields(Class<?> type) {
+        int many = 0;
+        for (Field field : type.getDeclaredFields()) {
+            boolean constant = Modifier.isStatic(field.getModifiers());
+            many += constant ? 0 : 1;
+            Check.due(type.getName() + "." + field.getName() + " is static and not final",
+                constant && !Modifier.isFinal(field.getModifiers()) ? 1 : 0, 0);
+        }
+        Check.due(type.getName() + " has no more than twenty fields", Math.max(20, many), 20);
+    }
+
+    /** Methods are short; constructors and fields alone make objects and arrays, so that no call fills the room. */
+    private static void methodsByLines() throws IOException {
+        Pattern head = Pattern.compile("( +)(?:(?:public|private|static|final) )*(\\w+(?:\\[])* )?(\\w+)\\(.*\\) \\{");
+        int start = 0;
+        String end = "";
+        boolean makes = false;
+        int number = 0;
+        for (String line : Files.readAllLines(Path.of("src/main/java/HopeBank.java"))) {
+            number++;
+            Matcher matcher = head.matcher(line);
+            if (end.isEmpty() && matcher.matches()) {
+                start = number;
+                end = matcher.group(1) + "}";
+                makes = matcher.group(2) == null;
+            }
+            boolean isNew = line.contains(" new ");
+            Check.due("line " + number + " makes an object in a method", isNew && !end.isEmpty() && !makes ? 1 : 0, 0);
+            if (!end.isEmpty() && line.equals(end)) {
+                Check.due("lines of the method at " + start, Math.max(60, number - start + 1), 60);
+                end = "";
+            }
+        }
+        Check.due("the last method has an end", end.length(), 0);
     }
 
     private static void words() throws IOException {
