@@ -201,13 +201,15 @@ final class ActEdges {
         bank.row(0, 0, 3);
         Check.feed(bank, "town nights 99");
         bank.town();
+        bank.end(0);
+        Check.feed(bank, "abc");
         Doc.at(69);
         Doc.edge("It is as IMAGE k has it: 0", bank.back(0), 0);
         Doc.edges("It is as IMAGE k has it", new int[] {bank.count(9), bank.count(10), bank.count(11), bank.fault(0),
-            bank.fault(1), bank.misses(), bank.pig(0, 0)}, 0, 14, 1, 2, 12, -2, -2);
+            bank.fault(1), bank.misses(), bank.pig(0, 0)}, 0, 3, 1, 2, 12, -2, -2);
         Doc.edge("It is as IMAGE k has it: 0", bank.back(1), 0);
         Doc.edges("It is as IMAGE k has it", new int[] {bank.count(9), bank.count(10), bank.count(11),
-            bank.where(0, 1)}, 8, 14, 1, 0);
+            bank.where(0, 1)}, 8, 3, 1, 0);
         // In place of an older one.
         Doc.at(68);
         bank.breaks(0, 0);

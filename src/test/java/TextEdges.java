@@ -265,21 +265,21 @@ final class TextEdges {
 
     private static void feed() {
         Doc.at(2);
-        HopeBank bank = new HopeBank();
         int town = 't' << 24 | 'o' << 16 | 'w' << 8 | 'n';
         int nights = 'n' << 24 | 'i' << 16 | 'g' << 8 | 'h';
-        Doc.edge("Twenty bytes come behind the TAPE", bank.feed(town, 0x20202020, nights, 0x74732039, 0x39202020), 20);
+        HopeBank bank = new HopeBank();
+        Doc.edge("Twenty bytes come behind the TAPE",
+            bank.feed(town, 0x20202020, nights, 0x74732039, 0x39202020), 20);
+        Doc.edge("how many it has", bank.feed(0, 0, 0, 0, 0), 40);
         // "town    nights 99   ": four of each number, the highest first, and the numbers in their order.
-        Doc.edges("four of each number, the highest first", new int[] {bank.town(), bank.fault(0), bank.fault(1)},
-            -4, 2, 15);
-        Doc.edge("Twenty bytes come behind the TAPE", bank.feed(0, 0, 0, 0, 0), 40);
-        Doc.edges("four of each number, the highest first", new int[] {bank.town(), bank.fault(0), bank.fault(1)},
-            -4, 2, 15);
+        Doc.edges("four of each number, the highest first",
+            new int[] {bank.town(), bank.fault(0), bank.fault(1)}, -4, 2, 15);
         HopeBank other = new HopeBank();
-        other.feed(0x20202020, 0x20202020, 0x20202020, 0x20202020, 0x202020FF);
-        Doc.edges("four of each number, the highest first", new int[] {other.town(), other.fault(0), other.fault(1)},
-            -4, 1, 19);
-        Doc.edge("how many it has", other.feed(-1, -1, -1, -1, -1), 40);
+        other.feed(0x20202020, 0x20202020, 0x20202020, 0x20202020, 0x20202020);
+        Doc.edge("how many it has", other.feed(0x20202020, 0x20202020, 0x20202020, 0x20202020, 0x202020FF), 40);
+        Doc.edge("how many it has", other.feed(-1, -1, -1, -1, -1), 60);
+        Doc.edges("four of each number, the highest first",
+            new int[] {other.town(), other.fault(0), other.fault(1)}, -4, 1, 39);
         tapeFull();
     }
 
