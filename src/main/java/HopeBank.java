@@ -340,7 +340,7 @@ public final class HopeBank {
             return MISSING;
         }
         hush.fill(pig);
-        return hush.longest[0];
+        return at(hush.longest, 0);
     }
 
     public int order(int pig, int i) {
@@ -356,7 +356,7 @@ public final class HopeBank {
             return MISSING;
         }
         hush.fill(pig);
-        return hush.ways[0];
+        return at(hush.ways, 0);
     }
 
     public int tilts(int slot, int pig) {
@@ -884,8 +884,8 @@ public final class HopeBank {
             if (kind != SIGN) {
                 return wrong(MISPLACED);
             }
-            table.add(numbers[0], numbers[1], numbers[2]);
-            table.put(table.size - 1, 3, numbers[3]);
+            table.add(at(numbers, 0), at(numbers, 1), at(numbers, 2));
+            table.put(table.size - 1, 3, at(numbers, 3));
             found.lines++;
             return true;
         }
